@@ -60,10 +60,18 @@ public final class HeardTest {
         x.hears(7, 3);
         CHECK.due("ask() of 1", x.ask(), GateChain.NONE);
         x.forget();
+        int[] few = {123, 2, 294, 11};
+        for (int code : few) {
+            x.hears(code, 0);
+        }
+        CHECK.due("codes(0) just beyond what may be asked", x.codes(0), 252);
+        CHECK.due("ask() of 252", x.ask(), GateChain.NONE);
+        x.forget();
         int[][][] heard = {
             {{500, 1}}, {{500, 2}}, {{999, 1}}, {{123, 1}, {145, 2}}, {{123, 0}, {456, 1}},
             {{123, 0}, {456, 0}, {789, 1}}, {{12, 2}, {13, 2}}, {{12, 2}, {113, 2}},
             {{0, 0}, {111, 0}, {222, 0}}, {{0, 0}, {111, 0}, {222, 0}, {333, 0}}, {{0, 1}, {0, 1}, {9, 1}},
+            {{123, 0}, {2, 0}, {294, 0}, {11, 0}},
         };
         for (int[][] all : heard) {
             for (int[] h : all) {

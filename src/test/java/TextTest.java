@@ -109,6 +109,9 @@ public final class TextTest {
         fault("l1" + (char) 200, 2);
         fault("l1" + (char) 0, 2);
         fault("lk", 0);
+        fault("la1;", 0);
+        fault("lz1;", 0);
+        fault("l1;zz1;", 3);
         fault("l1;kk0 0;", 3);
         fault("k0 0;", 3);
         fault("k3 0;", 1);
