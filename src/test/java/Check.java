@@ -1,16 +1,62 @@
+import java.io.IOException;
+import java.nio.file.Files;
+import java.nio.file.Path;
+import java.util.function.Consumer;
+import java.util.function.ToLongFunction;
+
 /** What all tests of the project share: telling wrong answers, and ending with 1 if there was one. */
 final class Check {
+    /** Numbers that stand far from all that any call takes. */
+    static final int[] FAR = {-1, -2, -9, 1000, 1 << 16, -1000000, Integer.MAX_VALUE, Integer.MIN_VALUE};
+
     private int wrong = 0;
     private int made = 0;
+    private String document = null;
+    private String sentence = "";
 
     void due(String call, long got, long want) {
         made++;
         if (got != want) {
             wrong++;
             if (wrong <= 40) {
-                System.out.println(call + " answered " + got + ", due is " + want);
+                System.out.println(sentence + call + " answered " + got + ", due is " + want);
             }
         }
+    }
+
+    /** Names what the next answers hold to. It must stand in the document, so that no test outlives its words. */
+    void sentence(String words) {
+        made++;
+        sentence = "\"" + words + "\": ";
+        if (!document().contains(words)) {
+            wrong++;
+            System.out.println(sentence + "does not stand in the document");
+        }
+    }
+
+    private String document() {
+        if (document == null) {
+            try {
+                String file = System.getProperty("gatechain.doc", "../shared/DOC.md");
+                document = Files.readString(Path.of(file)).replaceAll("\\s+", " ");
+            } catch (IOException e) {
+                throw new IllegalStateException("the document can't be read", e);
+            }
+        }
+        return document;
+    }
+
+    /**
+     * A refused call: it answers what is due, and nothing changes. Of two objects made alike one is asked for it;
+     * behind it both are emptied of all that they hold, and must tell the same.
+     */
+    void refused(String text, Consumer<GateChain> ahead, String call, ToLongFunction<GateChain> asked, long want) {
+        GateChain one = told(text);
+        GateChain other = told(text);
+        ahead.accept(one);
+        ahead.accept(other);
+        due(call, asked.applyAsLong(one), want);
+        same(call, Drain.all(one), Drain.all(other));
     }
 
     /** Puts a text into THE TEXT, byte by byte. */
@@ -57,7 +103,7 @@ final class Check {
         made++;
         if (!got.equals(want)) {
             wrong++;
-            System.out.println(call + " left\n  " + got + "\ndue is\n  " + want);
+            System.out.println(sentence + call + " left\n  " + got + "\ndue is\n  " + want);
         }
     }
 

@@ -71,12 +71,13 @@ public final class KindsTest {
         CHECK.due("undo() of image 1", x.undo(), 3);
         CHECK.due("undo() of image 1", x.undo(), 2);
         CHECK.same("all undone to image 0", Check.look(x), first);
-        CHECK.due("back(1) again", x.back(1), 3);
-        CHECK.same("back(1) again", Check.look(x), second);
-        notInImages(x);
+        notInImages();
     }
 
-    private static void notInImages(GateChain x) {
+    private static void notInImages() {
+        GateChain x = Check.told("n3;l123;l45;l900;l7;k0 0;");
+        x.opens(0, 0);
+        x.shuts(2, 5);
         x.keep(0);
         x.hears(123, 1);
         x.mark(1, 0);
