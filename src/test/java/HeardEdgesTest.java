@@ -78,31 +78,6 @@ public final class HeardEdgesTest {
         CHECK.due("codes(1), with 0s ahead", heard(7, 3).codes(1), 7);
     }
 
-    private static int countBy(int[][] heard) {
-        int many = 0;
-        for (int code = 0; code < 1000; code++) {
-            many += agrees(code, heard) ? 1 : 0;
-        }
-        return many;
-    }
-
-    private static boolean agrees(int code, int[][] heard) {
-        for (int[] h : heard) {
-            if (right(code, h[0]) != h[1]) {
-                return false;
-            }
-        }
-        return true;
-    }
-
-    private static int right(int one, int other) {
-        int right = 0;
-        for (int ten = 1; ten <= 100; ten *= 10) {
-            right += one / ten % 10 == other / ten % 10 ? 1 : 0;
-        }
-        return right;
-    }
-
     private static void codesOfNone() {
         CHECK.sentence("CODES: how many (what = 0), the least (1); NONE. BAD.");
         for (GateChain x : new GateChain[] {heard(5, 3, 6, 3), heard(5, 3, 5, 0), heard(0, 1, 0, 2), heard(1, 0, 1, 3)}) {
@@ -140,7 +115,7 @@ public final class HeardEdgesTest {
         CHECK.due("ask(), just more", more.ask(), NONE);
         GateChain fewer = heard(0, 1);
         CHECK.due("codes(0), just fewer", fewer.codes(0), 243);
-        CHECK.due("ask(), just fewer", fewer.ask(), bestByHand(new int[][] {{0, 1}}));
+        CHECK.due("ask(), just fewer", fewer.ask(), ByHand.question(new int[][] {{0, 1}}));
         CHECK.due("numbers left between 244 and 251", leftBetween(244, 251), 0);
     }
 
@@ -169,7 +144,7 @@ public final class HeardEdgesTest {
             int answers = 0;
             for (int unit = 1; unit <= 1000; unit *= 10) {
                 int number = hundreds / unit % 10 * 100 + tens / unit % 10 * 10 + ones / unit % 10;
-                answers = answers * 4 + right(code, number);
+                answers = answers * 4 + ByHand.right(code, number);
             }
             counts[answers]++;
         }
@@ -182,36 +157,19 @@ public final class HeardEdgesTest {
             {{0, 1}}, {{999, 1}}, {{500, 1}}, {{999, 2}}, {{0, 2}}, {{555, 2}}, {{500, 1}, {555, 1}},
             {{500, 1}, {555, 1}, {5, 0}}, {{999, 2}, {990, 2}}, {{0, 0}, {111, 0}, {222, 0}}, {{987, 0}, {654, 1}},
             {{987, 0}, {654, 0}, {321, 0}, {100, 1}}, {{0, 2}, {11, 2}}, {{989, 2}, {998, 2}},
+            {{328, 2}, {321, 2}, {612, 0}, {99, 0}}, {{810, 0}, {890, 1}, {878, 1}, {957, 0}},
+            {{653, 0}, {696, 2}, {915, 0}}, {{506, 2}, {996, 1}, {703, 0}, {287, 0}},
         };
         for (int[][] heard : all) {
             GateChain x = new GateChain();
             for (int[] h : heard) {
                 x.hears(h[0], h[1]);
             }
-            int best = bestByHand(heard);
+            int best = ByHand.question(heard);
             CHECK.due("ask() of " + java.util.Arrays.deepToString(heard), x.ask(), best);
             CHECK.due("ask() again", x.ask(), best);
             CHECK.due("count(2) behind ask()", x.count(2), heard.length);
         }
-    }
-
-    private static int bestByHand(int[][] heard) {
-        int best = NONE;
-        int least = 1001;
-        for (int tried = 999; tried >= 0; tried--) {
-            int[] parts = new int[4];
-            for (int code = 0; code < 1000; code++) {
-                if (agrees(code, heard)) {
-                    parts[right(code, tried)]++;
-                }
-            }
-            int greatest = Math.max(Math.max(parts[0], parts[1]), Math.max(parts[2], parts[3]));
-            if (greatest <= least) {
-                least = greatest;
-                best = tried;
-            }
-        }
-        return countBy(heard) > 250 ? NONE : best;
     }
 
     private static void askMayBeOneThatCanNotBe() {
@@ -221,7 +179,7 @@ public final class HeardEdgesTest {
         CHECK.due("ask() of 243: 0, of which two wheels are as in 500", x.ask(), 0);
         GateChain y = heard(0, 0, 111, 0, 222, 0, 333, 0);
         CHECK.due("codes(0) of 216", y.codes(0), 216);
-        CHECK.due("ask() of 216", y.ask(), bestByHand(new int[][] {{0, 0}, {111, 0}, {222, 0}, {333, 0}}));
+        CHECK.due("ask() of 216", y.ask(), ByHand.question(new int[][] {{0, 0}, {111, 0}, {222, 0}, {333, 0}}));
     }
 
     // ---- promises 19 to 22
@@ -277,7 +235,7 @@ public final class HeardEdgesTest {
         GateChain x = Check.told("l123;k0 0;");
         CHECK.due("ask() of nothing heard", x.ask(), NONE);
         x.hears(0, 2);
-        CHECK.due("ask() of 27", x.ask(), bestByHand(new int[][] {{0, 2}}));
+        CHECK.due("ask() of 27", x.ask(), ByHand.question(new int[][] {{0, 2}}));
         x.hears(1, 3);
         CHECK.due("ask() of one", x.ask(), NONE);
         x.forget();

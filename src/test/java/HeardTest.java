@@ -77,49 +77,9 @@ public final class HeardTest {
             for (int[] h : all) {
                 x.hears(h[0], h[1]);
             }
-            CHECK.due("ask() of " + java.util.Arrays.deepToString(all), x.ask(), bestByHand(all));
-            CHECK.due("ask() again", x.ask(), bestByHand(all));
+            CHECK.due("ask() of " + java.util.Arrays.deepToString(all), x.ask(), ByHand.question(all));
+            CHECK.due("ask() again", x.ask(), ByHand.question(all));
             x.forget();
         }
-    }
-
-    private static int bestByHand(int[][] all) {
-        java.util.List<Integer> can = new java.util.ArrayList<>();
-        for (int code = 0; code < 1000; code++) {
-            boolean fits = true;
-            for (int[] h : all) {
-                fits &= right(code, h[0]) == h[1];
-            }
-            if (fits) {
-                can.add(code);
-            }
-        }
-        if (can.size() < 2 || can.size() > 250) {
-            return GateChain.NONE;
-        }
-        int best = -1;
-        int least = Integer.MAX_VALUE;
-        for (int tried = 0; tried < 1000; tried++) {
-            int[] parts = new int[4];
-            for (int code : can) {
-                parts[right(code, tried)]++;
-            }
-            java.util.Arrays.sort(parts);
-            if (parts[3] < least) {
-                least = parts[3];
-                best = tried;
-            }
-        }
-        return best;
-    }
-
-    private static int right(int one, int other) {
-        String a = String.format("%03d", one);
-        String b = String.format("%03d", other);
-        int right = 0;
-        for (int i = 0; i < 3; i++) {
-            right += a.charAt(i) == b.charAt(i) ? 1 : 0;
-        }
-        return right;
     }
 }

@@ -15,6 +15,7 @@ public final class TextEdgesTest {
         blanksAre32Alone();
         bytesThatBeginATokenOrNone();
         itemsAreEndedBySemicolons();
+        lettersAndNumbersAreUnlike();
         personsAreToldFirst();
         locksAreToldInTheirOrder();
         onlyLocksToldAheadAreKnown();
@@ -127,6 +128,11 @@ public final class TextEdgesTest {
         for (int p = 0; p < 6; p++) {
             CHECK.due("person(" + p + ", 1)", x.person(p, 1), friends[p]);
         }
+        GateChain y = Check.told("n4;f0 1;f2 1;f3 1;f3 2;f3 0;");
+        int[] many = {10, 13, 10, 7};
+        for (int p = 0; p < 4; p++) {
+            CHECK.due("person(" + p + ", 1) of many friends", y.person(p, 1), many[p]);
+        }
     }
 
     private static void textOf150Bytes() {
@@ -197,7 +203,22 @@ public final class TextEdgesTest {
         fault("l5;k0 0 0;", 8);
         fault("f0 1 2;", 5);
         fault("f0 1f0 2;", 4);
+    }
+
+    /** A letter's own number as a byte is no letter, and a letter no number. */
+    private static void lettersAndNumbersAreUnlike() {
+        CHECK.sentence("each letters and what is told");
+        for (char c : new char[] {'n', 'l', 'k', 'f'}) {
+            fault((int) c + " 1;", 0);
+            fault("l5;" + (int) c + " 0 0;", 3);
+        }
         fault("5;", 0);
+        fault("l x;", 2);
+        fault("n b;", 2);
+        fault("l5;k a 0;", 5);
+        fault("l5;k 0 a;", 7);
+        fault("f a 0;", 2);
+        fault("f 0 b;", 4);
     }
 
     private static void personsAreToldFirst() {
@@ -468,6 +489,14 @@ public final class TextEdgesTest {
         Check.put(x, told);
         x.gate();
         CHECK.same("all behind gate()", Drain.all(x), Drain.all(Check.told(told)));
+        GateChain open = Check.told("l1;l2;l3;l4;k0 0;");
+        open.opens(0, 0);
+        open.shuts(3, 77);
+        open.opens(0, 0);
+        Check.put(open, told);
+        open.gate();
+        CHECK.due("now(0), read while it was open", open.now(0), NONE);
+        CHECK.same("all behind gate(), read while it was open", Drain.all(open), Drain.all(Check.told(told)));
         CHECK.due("the trace is not told", traceBehindGate(), 11);
     }
 

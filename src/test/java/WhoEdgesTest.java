@@ -236,7 +236,7 @@ public final class WhoEdgesTest {
             x.tries(0, shown);
             int all = 0;
             for (int n = 0; n <= 15; n++) {
-                int within = within(shown, n);
+                int within = ByHand.within(shown, n);
                 CHECK.due("near(0, " + n + ") of " + shown, x.near(0, n), within);
                 CHECK.due("more numbers at " + n, within > all ? 1 : 0, 1);
                 all = within;
@@ -247,19 +247,6 @@ public final class WhoEdgesTest {
             CHECK.due("near(0, 14) by hand", x.near(0, 14), 999);
             CHECK.due("near(0, 15) by hand", x.near(0, 15), 1000);
         }
-    }
-
-    private static int within(int shown, int n) {
-        int numbers = 0;
-        for (int number = 0; number < 1000; number++) {
-            int steps = 0;
-            for (int ten = 1; ten <= 100; ten *= 10) {
-                int apart = Math.abs(number / ten % 10 - shown / ten % 10);
-                steps += Math.min(apart, 10 - apart);
-            }
-            numbers += steps <= n ? 1 : 0;
-        }
-        return numbers;
     }
 
     private static void oddsOfEachTenth() {

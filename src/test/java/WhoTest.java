@@ -72,8 +72,8 @@ public final class WhoTest {
         GateChain x = Check.told("l123;l987;k0 0;");
         x.tries(0, 590);
         for (int n = 0; n <= 15; n++) {
-            CHECK.due("near(0, " + n + ")", x.near(0, n), within(590, n));
-            CHECK.due("near(1, " + n + ")", x.near(1, n), within(0, n));
+            CHECK.due("near(0, " + n + ")", x.near(0, n), ByHand.within(590, n));
+            CHECK.due("near(1, " + n + ")", x.near(1, n), ByHand.within(0, n));
         }
         CHECK.due("near(0, 0) by hand", x.near(0, 0), 1);
         CHECK.due("near(0, 1) by hand", x.near(0, 1), 7);
@@ -84,19 +84,6 @@ public final class WhoTest {
             CHECK.due("near(" + s + ", 0)", x.near(s, 0), GateChain.BAD);
             CHECK.due("near(0, " + s + ")", x.near(0, s), GateChain.BAD);
         }
-    }
-
-    private static int within(int shown, int n) {
-        int numbers = 0;
-        for (int number = 0; number < 1000; number++) {
-            int steps = 0;
-            for (int ten = 1; ten <= 100; ten *= 10) {
-                int apart = Math.abs(number / ten % 10 - shown / ten % 10);
-                steps += Math.min(apart, 10 - apart);
-            }
-            numbers += steps <= n ? 1 : 0;
-        }
-        return numbers;
     }
 
     private static void odds() {
