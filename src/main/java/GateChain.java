@@ -750,8 +750,9 @@ public final class GateChain {
             openAt = other.openAt;
         }
 
+        // Looked at as a range, since openAt is an index behind it.
         boolean isOpen() {
-            return openAt != NONE;
+            return openAt >= 0 && openAt < MOST_LOCKS;
         }
 
         int behindOf(int l) {
